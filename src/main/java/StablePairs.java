@@ -15,6 +15,8 @@ public final class StablePairs {
     private static final int SEEKERS = 0;
     private static final int PLACES = 1;
     private static final int NONE = -1;
+    /** At most 5 pairs cost at most 4 + 4 each. */
+    private static final int ABOVE_ANY_COST = 41;
 
     private final int n;
     /** 6^n: every number of a matching is less. */
@@ -162,12 +164,12 @@ public final class StablePairs {
     }
 
     public int fairest() {
-        int fairestNumber = NONE;
-        int least = 0;
+        int fairestNumber = 0;
+        int least = ABOVE_ANY_COST;
         for (int number = 0; number < numberBound; number++) {
             if (isStable(number)) {
                 int cost = costOf(number);
-                if (fairestNumber == NONE || cost < least) {
+                if (cost < least) {
                     fairestNumber = number;
                     least = cost;
                 }

@@ -200,6 +200,8 @@ public final class PromisesTest {
     private static void promise8Stable() {
         due("8: nobody fits", new StablePairs(5).stable(0), 0);
         due("8: all alike, the lesser numbers first", pairs("11 11", "11 11").stable(0), 13);
+        due("8: a seeker's tie goes to the lesser place", pairs("77 00", "30 30").stable(0), 1);
+        due("8: a place's tie goes to the lesser seeker", pairs("50 50", "33 00").stable(0), 1);
         due("8: left over", leftOver().stable(0), 6);
         StablePairs x = twiceCrossed();
         int[] want = {800, 805, 980, 985};
@@ -221,7 +223,8 @@ public final class PromisesTest {
             due("9: blocking(" + numbers[k] + ")", x.blocking(numbers[k]), want[k]);
         }
         // 3 and 18 name place 2, 7 and 14 one place twice; from 36 on there is a third seeker.
-        for (int bad : new int[] {MIN, -1, -8, 3, 5, 18, 7, 14, 36, 49, 7775, 7776, 7784, MAX}) {
+        // The low digits of -36 are all 0.
+        for (int bad : new int[] {MIN, -7776, -36, -8, -1, 3, 5, 18, 7, 14, 36, 49, 7775, 7776, 7784, MAX}) {
             due("9: blocking(" + bad + ")", x.blocking(bad), -1);
         }
         StablePairs alike = pairs("11 11", "11 11");
