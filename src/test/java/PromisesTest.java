@@ -65,6 +65,11 @@ public final class PromisesTest {
         return pairs("50 50", "12 00");
     }
 
+    /** Seeker k fits place k and no other: stable is 7465 alone. */
+    private static StablePairs diagonal() {
+        return pairs("90000 09000 00900 00090 00009", "10000 01000 00100 00010 00001");
+    }
+
     private static void promise1NewObject() {
         int[] sizes = {MIN, -1, 0, 1, 2, 3, 4, 5, 6, 7, MAX};
         int[] held = {2, 2, 2, 2, 2, 3, 4, 5, 5, 5, 5};
@@ -211,8 +216,7 @@ public final class PromisesTest {
         for (int bad : new int[] {MIN, -1, 4, 5, MAX}) {
             due("8: stable(" + bad + ")", x.stable(bad), -1);
         }
-        StablePairs five = pairs("90000 09000 00900 00090 00009", "10000 01000 00100 00010 00001");
-        due("8: seeker k with place k", five.stable(0), 1 + 2 * 6 + 3 * 36 + 4 * 216 + 5 * 1296);
+        due("8: five pairs", diagonal().stable(0), 1 + 2 * 6 + 3 * 36 + 4 * 216 + 5 * 1296);
     }
 
     private static void promise9Blocking() {
@@ -233,7 +237,9 @@ public final class PromisesTest {
         due("9: nobody paired", few.blocking(0), 2);
         due("9: the place wants another", few.blocking(1), 1);
         due("9: a pair that does not fit", few.blocking(2), -1);
-        due("9: a full five", new StablePairs(5).blocking(7465), -1);
+        due("9: five pairs that do not fit", new StablePairs(5).blocking(7465), -1);
+        due("9: five pairs that fit", diagonal().blocking(7465), 0);
+        due("9: the fifth pair is missing", diagonal().blocking(985), 1);
     }
 
     private static void promise10BestFor() {
@@ -243,7 +249,7 @@ public final class PromisesTest {
         StablePairs turned = pairs("12 21", "21 12");
         due("10: the greater number", turned.bestFor(0), 1);
         due("10: the lesser number", turned.bestFor(1), 0);
-        due("10: likes another more, but in vain", crossedWithThird().bestFor(2), 2);
+        due("10: likes another more, but in vain", pairs("21 21", "21 21").bestFor(1), 1);
         due("10: in no pair", leftOver().bestFor(0), -2);
         due("10: its only place", leftOver().bestFor(1), 0);
         for (int bad : new int[] {MIN, -1, 2, MAX}) {
