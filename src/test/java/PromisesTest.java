@@ -1,7 +1,7 @@
 /** One method for each promise; every answer that is due was worked out by hand. */
 public final class PromisesTest {
-    private static final int MIN = Integer.MIN_VALUE;
-    private static final int MAX = Integer.MAX_VALUE;
+    private static final int MIN = Examples.MIN;
+    private static final int MAX = Examples.MAX;
     private static final Answers answers = new Answers();
 
     public static void main(String[] args) {
@@ -26,48 +26,6 @@ public final class PromisesTest {
 
     private static void due(String call, long got, long want) {
         answers.due(call, got, want);
-    }
-
-    /** Seeker s likes the places by row s of the first text, a digit each; the places likewise. */
-    private static StablePairs pairs(String seekerRows, String placeRows) {
-        String[] seekers = seekerRows.split(" ");
-        String[] places = placeRows.split(" ");
-        StablePairs x = new StablePairs(seekers.length);
-        for (int who = 0; who < seekers.length; who++) {
-            for (int whom = 0; whom < seekers.length; whom++) {
-                x.seekerLikes(who, whom, seekers[who].charAt(whom) - '0');
-                x.placeLikes(who, whom, places[who].charAt(whom) - '0');
-            }
-        }
-        return x;
-    }
-
-    /** Each side's first choices are the other side's last: the stable matchings are 8 and 13. */
-    private static StablePairs crossed() {
-        return pairs("21 12", "12 21");
-    }
-
-    /** Two crossed fours side by side: the stable matchings are 800, 805, 980 and 985. */
-    private static StablePairs twiceCrossed() {
-        return pairs("2100 1200 0021 0012", "1200 2100 0012 0021");
-    }
-
-    /**
-     * Seeker 2 and place 2 are each other's first; the rest is crossed, but seeker 0 has place 2
-     * between its two. Stable are 116, of cost 3, and 121, of cost 2.
-     */
-    private static StablePairs crossedWithThird() {
-        return pairs("312 231 213", "231 321 213");
-    }
-
-    /** Seeker 0 and place 1 are left over beside the pair of seeker 1 and place 0. */
-    private static StablePairs leftOver() {
-        return pairs("50 50", "12 00");
-    }
-
-    /** Seeker k fits place k and no other: stable is 7465 alone. */
-    private static StablePairs diagonal() {
-        return pairs("90000 09000 00900 00090 00009", "10000 01000 00100 00010 00001");
     }
 
     private static void promise1NewObject() {
@@ -192,23 +150,23 @@ public final class PromisesTest {
 
     private static void promise7Stables() {
         due("7: nobody fits", new StablePairs(5).stables(), 1);
-        due("7: crossed", crossed().stables(), 2);
-        due("7: twice crossed", twiceCrossed().stables(), 4);
-        due("7: three in a ring", pairs("321 132 213", "132 213 321").stables(), 3);
-        due("7: left over", leftOver().stables(), 1);
-        due("7: all alike", pairs("11 11", "11 11").stables(), 1);
-        StablePairs x = crossed();
+        due("7: crossed", Examples.crossed().stables(), 2);
+        due("7: twice crossed", Examples.twiceCrossed().stables(), 4);
+        due("7: three in a ring", Examples.pairs("321 132 213", "132 213 321").stables(), 3);
+        due("7: left over", Examples.leftOver().stables(), 1);
+        due("7: all alike", Examples.pairs("11 11", "11 11").stables(), 1);
+        StablePairs x = Examples.crossed();
         x.seekerLikes(0, 0, 0);
         due("7: after a change", x.stables(), 1);
     }
 
     private static void promise8Stable() {
         due("8: nobody fits", new StablePairs(5).stable(0), 0);
-        due("8: all alike, the lesser numbers first", pairs("11 11", "11 11").stable(0), 13);
-        due("8: a seeker's tie goes to the lesser place", pairs("77 00", "30 30").stable(0), 1);
-        due("8: a place's tie goes to the lesser seeker", pairs("50 50", "33 00").stable(0), 1);
-        due("8: left over", leftOver().stable(0), 6);
-        StablePairs x = twiceCrossed();
+        due("8: all alike, the lesser numbers first", Examples.pairs("11 11", "11 11").stable(0), 13);
+        due("8: a seeker's tie goes to the lesser place", Examples.pairs("77 00", "30 30").stable(0), 1);
+        due("8: a place's tie goes to the lesser seeker", Examples.pairs("50 50", "33 00").stable(0), 1);
+        due("8: left over", Examples.leftOver().stable(0), 6);
+        StablePairs x = Examples.twiceCrossed();
         int[] want = {800, 805, 980, 985};
         for (int i = 0; i < 4; i++) {
             due("8: stable(" + i + ")", x.stable(i), want[i]);
@@ -216,11 +174,11 @@ public final class PromisesTest {
         for (int bad : new int[] {MIN, -1, 4, 5, MAX}) {
             due("8: stable(" + bad + ")", x.stable(bad), -1);
         }
-        due("8: five pairs", diagonal().stable(0), 1 + 2 * 6 + 3 * 36 + 4 * 216 + 5 * 1296);
+        due("8: five pairs", Examples.diagonal().stable(0), 1 + 2 * 6 + 3 * 36 + 4 * 216 + 5 * 1296);
     }
 
     private static void promise9Blocking() {
-        StablePairs x = crossed();
+        StablePairs x = Examples.crossed();
         int[] numbers = {0, 1, 2, 6, 12, 8, 13};
         int[] want = {4, 2, 2, 2, 2, 0, 0};
         for (int k = 0; k < numbers.length; k++) {
@@ -231,53 +189,53 @@ public final class PromisesTest {
         for (int bad : new int[] {MIN, -7776, -36, -8, -1, 3, 5, 18, 7, 14, 36, 49, 7775, 7776, 7784, MAX}) {
             due("9: blocking(" + bad + ")", x.blocking(bad), -1);
         }
-        StablePairs alike = pairs("11 11", "11 11");
+        StablePairs alike = Examples.pairs("11 11", "11 11");
         due("9: of equals, the lesser number blocks", alike.blocking(8), 1);
-        StablePairs few = leftOver();
+        StablePairs few = Examples.leftOver();
         due("9: nobody paired", few.blocking(0), 2);
         due("9: the place wants another", few.blocking(1), 1);
         due("9: a pair that does not fit", few.blocking(2), -1);
         due("9: five pairs that do not fit", new StablePairs(5).blocking(7465), -1);
-        due("9: five pairs that fit", diagonal().blocking(7465), 0);
-        due("9: the fifth pair is missing", diagonal().blocking(985), 1);
+        due("9: five pairs that fit", Examples.diagonal().blocking(7465), 0);
+        due("9: the fifth pair is missing", Examples.diagonal().blocking(985), 1);
     }
 
     private static void promise10BestFor() {
-        StablePairs x = crossed();
+        StablePairs x = Examples.crossed();
         due("10: seeker 0", x.bestFor(0), 0);
         due("10: seeker 1", x.bestFor(1), 1);
-        StablePairs turned = pairs("12 21", "21 12");
+        StablePairs turned = Examples.pairs("12 21", "21 12");
         due("10: the greater number", turned.bestFor(0), 1);
         due("10: the lesser number", turned.bestFor(1), 0);
-        due("10: likes another more, but in vain", pairs("21 21", "21 21").bestFor(1), 1);
-        due("10: in no pair", leftOver().bestFor(0), -2);
-        due("10: its only place", leftOver().bestFor(1), 0);
+        due("10: likes another more, but in vain", Examples.pairs("21 21", "21 21").bestFor(1), 1);
+        due("10: in no pair", Examples.leftOver().bestFor(0), -2);
+        due("10: its only place", Examples.leftOver().bestFor(1), 0);
         for (int bad : new int[] {MIN, -1, 2, MAX}) {
             due("10: seeker " + bad, x.bestFor(bad), -1);
         }
     }
 
     private static void promise11WorstFor() {
-        StablePairs x = crossed();
+        StablePairs x = Examples.crossed();
         due("11: seeker 0", x.worstFor(0), 1);
         due("11: seeker 1", x.worstFor(1), 0);
-        StablePairs turned = pairs("12 21", "21 12");
+        StablePairs turned = Examples.pairs("12 21", "21 12");
         due("11: the lesser number", turned.worstFor(0), 0);
         due("11: the greater number", turned.worstFor(1), 1);
-        due("11: three in a ring", pairs("321 132 213", "132 213 321").worstFor(0), 2);
-        due("11: in no pair", leftOver().worstFor(0), -2);
-        due("11: its only place", leftOver().worstFor(1), 0);
+        due("11: three in a ring", Examples.pairs("321 132 213", "132 213 321").worstFor(0), 2);
+        due("11: in no pair", Examples.leftOver().worstFor(0), -2);
+        due("11: its only place", Examples.leftOver().worstFor(1), 0);
         for (int bad : new int[] {MIN, -1, 2, MAX}) {
             due("11: seeker " + bad, x.worstFor(bad), -1);
         }
     }
 
     private static void promise12Together() {
-        StablePairs x = twiceCrossed();
+        StablePairs x = Examples.twiceCrossed();
         due("12: (0, 0)", x.together(0, 0), 2);
         due("12: (2, 3)", x.together(2, 3), 2);
         due("12: not fitting", x.together(0, 3), 0);
-        StablePairs third = crossedWithThird();
+        StablePairs third = Examples.crossedWithThird();
         due("12: in all", third.together(2, 2), 2);
         due("12: in one", third.together(0, 1), 1);
         due("12: fitting, but in none", third.together(0, 2), 0);
@@ -289,19 +247,19 @@ public final class PromisesTest {
 
     private static void promise13Placed() {
         due("13: nobody fits", new StablePairs(5).placed(), 0);
-        due("13: left over", leftOver().placed(), 1);
-        due("13: all, though in changing pairs", twiceCrossed().placed(), 4);
-        due("13: some of three", pairs("210 120 000", "120 210 000").placed(), 2);
+        due("13: left over", Examples.leftOver().placed(), 1);
+        due("13: all, though in changing pairs", Examples.twiceCrossed().placed(), 4);
+        due("13: some of three", Examples.pairs("210 120 000", "120 210 000").placed(), 2);
     }
 
     private static void promise14LeastCost() {
         due("14: nobody fits", new StablePairs(5).leastCost(), 0);
-        due("14: crossed", crossed().leastCost(), 2);
-        due("14: twice crossed", twiceCrossed().leastCost(), 4);
-        due("14: the second is cheaper", crossedWithThird().leastCost(), 2);
-        due("14: of equals, the lesser number ranks first", pairs("11 11", "11 11").leastCost(), 2);
-        due("14: left over", leftOver().leastCost(), 0);
-        StablePairs x = pairs("12 00", "10 00");
+        due("14: crossed", Examples.crossed().leastCost(), 2);
+        due("14: twice crossed", Examples.twiceCrossed().leastCost(), 4);
+        due("14: the second is cheaper", Examples.crossedWithThird().leastCost(), 2);
+        due("14: of equals, the lesser number ranks first", Examples.pairs("11 11", "11 11").leastCost(), 2);
+        due("14: left over", Examples.leftOver().leastCost(), 0);
+        StablePairs x = Examples.pairs("12 00", "10 00");
         due("14: a place that does not fit has no rank", x.leastCost(), 0);
         x.placeLikes(1, 0, 1);
         due("14: first choice", x.leastCost(), 0);
@@ -309,16 +267,16 @@ public final class PromisesTest {
 
     private static void promise15Fairest() {
         due("15: nobody fits", new StablePairs(5).fairest(), 0);
-        due("15: of the same cost, the least number", crossed().fairest(), 8);
-        StablePairs x = crossedWithThird();
+        due("15: of the same cost, the least number", Examples.crossed().fairest(), 8);
+        StablePairs x = Examples.crossedWithThird();
         due("15: the second is cheaper", x.fairest(), 121);
         x.placeLikes(2, 0, 0);
         due("15: a place that no longer fits costs nothing", x.fairest(), 116);
-        due("15: left over", leftOver().fairest(), 6);
+        due("15: left over", Examples.leftOver().fairest(), 6);
     }
 
     private static void promise16Better() {
-        StablePairs x = twiceCrossed();
+        StablePairs x = Examples.twiceCrossed();
         int[] numbers = {800, 805, 980, 985};
         for (int i = 0; i < 4; i++) {
             for (int j = 0; j < 4; j++) {
@@ -331,8 +289,8 @@ public final class PromisesTest {
             due("16: both " + bad, x.better(bad, bad), -1);
         }
         due("16: nobody fits", new StablePairs(5).better(0, 0), 0);
-        due("16: left over", leftOver().better(0, 0), 6);
-        StablePairs turned = pairs("12 21", "21 12");
+        due("16: left over", Examples.leftOver().better(0, 0), 6);
+        StablePairs turned = Examples.pairs("12 21", "21 12");
         due("16: the greater place is liked more", turned.better(0, 1), 8);
     }
 }
