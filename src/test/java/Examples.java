@@ -55,7 +55,7 @@ final class Examples {
         return pairs("210 120 000", "120 210 000");
     }
 
-    /** Two crossed fours side by side: the stable matchings are 800, 805, 980 and 985. */
+    /** Two crossed twos side by side: the stable matchings are 800, 805, 980 and 985. */
     static StablePairs twiceCrossed() {
         return pairs("2100 1200 0021 0012", "1200 2100 0012 0021");
     }

@@ -21,6 +21,7 @@ public final class FaceTest {
         for (Method method : type.getDeclaredMethods()) {
             if (!Modifier.isPrivate(method.getModifiers())) {
                 shown.add(method.getName() + "/" + method.getParameterCount());
+                answers.holds(method + " is public and of an object", isOffered(method));
                 answers.holds(method + " takes and answers int alone", onlyInts(method));
             }
         }
@@ -30,7 +31,20 @@ public final class FaceTest {
         }
         Constructor<?>[] constructors = type.getDeclaredConstructors();
         answers.holds("there is one constructor", constructors.length == 1);
+        answers.holds(constructors[0] + " is public and takes one int",
+                Modifier.isPublic(constructors[0].getModifiers()) && takesOneInt(constructors[0]));
         answers.end();
+    }
+
+    /** The other tests stand beside the class, so they would call a method that is not public. */
+    private static boolean isOffered(Method method) {
+        int modifiers = method.getModifiers();
+        return Modifier.isPublic(modifiers) && !Modifier.isStatic(modifiers);
+    }
+
+    private static boolean takesOneInt(Constructor<?> constructor) {
+        Class<?>[] parameters = constructor.getParameterTypes();
+        return parameters.length == 1 && parameters[0] == int.class;
     }
 
     private static boolean onlyInts(Method method) {
